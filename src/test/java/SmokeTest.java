@@ -1,0 +1,1 @@
+public final class SmokeTest { public static void main(String[] a) { new FermionMaps(); } }
