@@ -145,6 +145,15 @@ public final class SumTest {
         Check.due("4: down ahead, odd ups", after(of(4, 1, 1 | 2, 3), 3, false, true), "1,11,-3");
         Check.due("4: down behind", after(of(4, 7, 4 | 8, 3), 0, false, false), "7,13,3");
         Check.due("4: down behind, odd", after(of(4, 7, 1 | 8, 3), 2, false, false), "7,13,-3");
+        Check.due("4: up past one below", after(of(4, 1, 6, 3), 2, true, true), "5,6,-3");
+        Check.due("4: up not past one above", after(of(4, 8, 6, 3), 2, true, true), "12,6,3");
+        Check.due("4: up behind", after(of(4, 2 | 8, 0, 3), 2, true, false), "14,0,-3");
+        Check.due("4: up behind", after(of(4, 2, 0, 3), 2, true, false), "6,0,3");
+        Check.due("4: down ahead", after(of(4, 0, 1, 3), 1, false, true), "0,3,-3");
+        Check.due("4: down ahead", after(of(4, 0, 8, 3), 1, false, true), "0,10,3");
+        Check.due("4: down ahead", after(of(4, 0, 7, 3), 3, false, true), "0,15,-3");
+        Check.due("4: down behind", after(of(4, 7, 1, 3), 2, false, false), "7,5,3");
+        Check.due("4: down behind", after(of(4, 7, 8, 3), 2, false, false), "7,12,-3");
         Check.due("4: up twice", after(of(4, 4, 1, 3), 2, true, true), "");
         Check.due("4: up twice behind", after(of(4, 4, 1, 3), 2, true, false), "");
         Check.due("4: down twice", after(of(4, 1, 4, 3), 2, false, true), "");
@@ -251,6 +260,8 @@ public final class SumTest {
         Check.due("7: moved past one", x.makes(3, 6), -5);
         Check.due("7: not there", x.makes(2, 4), 0);
         Check.due("7: place taken", x.makes(5, 4), 0);
+        Check.due("7: place taken", x.makes(5, 0), 0);
+        Check.due("7: not there", x.makes(0, 5), 0);
         Check.due("7: another end", x.makes(1, 2), 0);
         Check.due("7: not the other way", x.makes(4, 1), 0);
         FermionMaps y = of(3, 0, 6, 1);
