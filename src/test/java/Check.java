@@ -15,9 +15,14 @@ final class Check {
         if (!gotText.equals(wantText)) {
             wrong++;
             if (wrong <= 50) {
-                System.out.println(call + " answered " + gotText + ", due is " + wantText);
+                System.out.println(call + " answered " + cut(gotText) + ", due is "
+                    + cut(wantText));
             }
         }
+    }
+
+    private static String cut(String text) {
+        return text.length() <= 300 ? text : text.substring(0, 300) + " ..";
     }
 
     static String product(FermionMaps x, int i, int what) {
