@@ -14,6 +14,7 @@ public final class SumEdgesTest {
         theEmptyProduct();
         orderOfProducts();
         onePastItself();
+        laddersOfEachProduct();
         newObject();
         beginTakes();
         beginLeavesNothing();
@@ -26,6 +27,8 @@ public final class SumEdgesTest {
         ladderToTheGreatestNumber();
         ladderToSixtyAndNoMore();
         ladderWherePairsMeet();
+        ladderRefusedAfterOthers();
+        ladderAfterQuestions();
         ladderOfFullSums();
         ladderOfTheEmptySum();
         clear();
@@ -163,6 +166,31 @@ public final class SumEdgesTest {
         x.ladder(j, first, ahead);
         x.ladder(j, second, ahead);
         return Check.sum(x);
+    }
+
+    /** "AHEAD .. each PRODUCT is done first, then the LADDER; BEHIND: the LADDER first." */
+    private static void laddersOfEachProduct() {
+        for (int call = 0; call < 64 * 12; call++) {
+            int ups = call % 8;
+            int downs = call / 8 % 8;
+            int j = call / 64 % 3;
+            int up = call / 192 % 2 == 0 ? 1 << j : 0;
+            int down = (1 << j) - up;
+            boolean ahead = call / 384 == 0;
+            FermionMaps x = of(3);
+            x.add(ups, downs, 1);
+            Check.due("4: count", x.ladder(j, up != 0, ahead), x.total(1));
+            for (int pair = 0; pair < 64; pair++) {
+                int from = pair / 8;
+                int to = pair % 8;
+                int first = ahead ? oneByOne(ups, downs, from, to ^ (1 << j))
+                    : oneByOne(up, down, from, from ^ (1 << j));
+                int second = ahead ? oneByOne(up, down, to ^ (1 << j), to)
+                    : oneByOne(ups, downs, from ^ (1 << j), to);
+                Check.due("4: ladder " + call + " of " + from + " to " + to, x.makes(from, to),
+                    first * second);
+            }
+        }
     }
 
     /** Promise 1: "One MODE, an empty SUM, WAY 0." */
@@ -422,10 +450,13 @@ public final class SumEdgesTest {
         Twins.refused("4: 120 of 60", z -> addOddUps(z, 60), z -> z.ladder(0, false, true), NONE);
     }
 
-    /** 29 products that become 58, and pairs of products that come to one place. */
-    private static void addPairs(FermionMaps x, int pairs, boolean takeAway) {
-        addOddUps(x, 29);
-        for (int i = 40; i < 40 + pairs; i++) {
+    /** 29 products that become 58, and pairs of products, from one on, that come to one place. */
+    private static void addPairs(FermionMaps x, int first, int pairs, boolean takeAway) {
+        x.begin(8);
+        for (int i = 40; i < 69; i++) {
+            x.add(2 * i + 1, 0, 1);
+        }
+        for (int i = first; i < first + pairs; i++) {
             boolean turned = Integer.bitCount(i) % 2 == 1;
             x.add(2 * i, 4, 3);
             x.add(2 * i + 1, 5, turned == takeAway ? 3 : -3);
@@ -435,14 +466,45 @@ public final class SumEdgesTest {
 
     /** Promise 4: "the SUM would have .. more than 60": what counts is what comes together. */
     private static void ladderWherePairsMeet() {
-        FermionMaps x = new FermionMaps();
-        addPairs(x, 2, false);
-        Check.due("4: 58, and two of two pairs", x.ladder(0, false, true), 60);
-        Twins.refused("4: 58, and three of three pairs", y -> addPairs(y, 3, false),
-            y -> y.ladder(0, false, true), NONE);
-        FermionMaps away = new FermionMaps();
-        addPairs(away, 15, true);
-        Check.due("4: 58, and none of 15 pairs", away.ladder(0, false, true), 58);
+        for (int first : new int[] {0, 45, 90}) {
+            FermionMaps x = new FermionMaps();
+            addPairs(x, first, 2, false);
+            Check.due("4: 58, and two of two pairs", x.ladder(0, false, true), 60);
+            Twins.refused("4: 58, and three of three pairs", y -> addPairs(y, first, 3, false),
+                y -> y.ladder(0, false, true), NONE);
+            FermionMaps away = new FermionMaps();
+            addPairs(away, first, 15, true);
+            Check.due("4: 58, and none of 15 pairs", away.ladder(0, false, true), 58);
+            Check.due("4: the last of 58", Check.product(away, 57, 0), "137");
+        }
+    }
+
+    /** Promise 4: "NONE, changing nothing", also where ladders have been taken before. */
+    private static void ladderRefusedAfterOthers() {
+        for (int before = 1; before <= 3; before++) {
+            int ladders = before;
+            Twins.refused("4: beyond, after " + before + " ladders", x -> {
+                x.begin(4);
+                x.add(0, 0, 1);
+                for (int i = 0; i < ladders; i++) {
+                    x.ladder(3 - i, true, i % 2 == 0);
+                }
+                x.add(2, 2, 7);
+                x.add(8, 4, MOST);
+                x.add(9, 5, -MOST);
+            }, x -> x.ladder(0, false, true), NONE);
+        }
+    }
+
+    /** Promise 4: what a ladder makes is seen, whatever was asked before. */
+    private static void ladderAfterQuestions() {
+        FermionMaps x = of(3);
+        FermionMaps other = of(3);
+        x.add(1, 2, 3);
+        other.add(1, 2, 3);
+        Twins.answers(x);
+        Check.due("4: ladder", x.ladder(2, true, true), other.ladder(2, true, true));
+        Check.due("4: asked before or not", Twins.later(x), Twins.later(other));
     }
 
     /** Promise 4: a SUM of 60 stays one of 60, or becomes less. */
@@ -458,6 +520,13 @@ public final class SumEdgesTest {
             Check.due("4: none of 60", x.ladder(7, up, ahead), 0);
             Check.due("4: none of none", x.ladder(7, !up, ahead), 0);
         }
+        FermionMaps meeting = of(8);
+        for (int i = 0; i < 30; i++) {
+            meeting.add(2 * i, 0, 1);
+            meeting.add(2 * i + 61, 1, 1);
+        }
+        Check.due("4: 30 that join, then 30 that meet", meeting.ladder(0, false, true), 60);
+        Check.due("4: the last", Check.product(meeting, 59, 0), "118");
         FermionMaps half = full();
         Check.due("4: the half with bit 2 is nothing", half.ladder(2, true, true), 32);
         FermionMaps first = full();

@@ -468,6 +468,8 @@ public final class WiresEdgesTest {
     private static void asManyUpsAsDowns() {
         FermionMaps x = of(8);
         Check.due("13: no product", x.total(4), 1);
+        Check.due("13: one up alone", of(8, 1, 0, 1).total(4), 0);
+        Check.due("13: one down alone", of(8, 0, 128, 1).total(4), 0);
         x.add(0, 0, 1);
         Check.due("13: the empty product", x.total(4), 1);
         x.add(255, 255, 1);
