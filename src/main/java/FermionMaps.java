@@ -10,6 +10,7 @@ public final class FermionMaps {
     private static final int MOST_MODES = 8;
     private static final int MOST_SETS = 256;
     private static final int EVERY_MODE = 255;
+    private static final int BEHIND_ALL_KEYS = 65536;
     private static final int MOST_PRODUCTS = 60;
     private static final int MOST_NUMBER = 1000000;
     private static final int WAY_OF_MODES = 0;
@@ -300,8 +301,8 @@ public final class FermionMaps {
                 if (joining >= count && meeting >= count) {
                     break;
                 }
-                int joined = joining < count ? keys[joining] + joinBit : Integer.MAX_VALUE;
-                int met = meeting < count ? keys[meeting] - meetBit : Integer.MAX_VALUE;
+                int joined = joining < count ? keys[joining] + joinBit : BEHIND_ALL_KEYS;
+                int met = meeting < count ? keys[meeting] - meetBit : BEHIND_ALL_KEYS;
                 int key = Math.min(joined, met);
                 int number = 0;
                 if (joined == key) {

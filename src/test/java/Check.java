@@ -25,7 +25,7 @@ final class Check {
         return text.length() <= 300 ? text : text.substring(0, 300) + " ..";
     }
 
-    static String product(FermionMaps x, int i, int what) {
+    static String product(Maps x, int i, int what) {
         try {
             return String.valueOf(x.product(i, what));
         } catch (NoSuchElementException e) {
@@ -33,7 +33,7 @@ final class Check {
         }
     }
 
-    static String makes(FermionMaps x, int from, int to) {
+    static String makes(Maps x, int from, int to) {
         try {
             return String.valueOf(x.makes(from, to));
         } catch (NoSuchElementException e) {
@@ -41,7 +41,7 @@ final class Check {
         }
     }
 
-    static String image(FermionMaps x, int i, int what) {
+    static String image(Maps x, int i, int what) {
         try {
             return String.valueOf(x.image(i, what));
         } catch (NoSuchElementException e) {
@@ -50,9 +50,10 @@ final class Check {
     }
 
     /** The whole sum as text: U,D,number for each product. */
-    static String sum(FermionMaps x) {
+    static String sum(Maps x) {
         StringBuilder text = new StringBuilder();
-        for (int i = 0; i < x.total(1); i++) {
+        int count = x.total(1);
+        for (int i = 0; i < count; i++) {
             text.append(x.product(i, 0)).append(',').append(x.product(i, 1)).append(',');
             text.append(x.product(i, 2)).append(' ');
         }
@@ -60,7 +61,7 @@ final class Check {
     }
 
     /** The whole image as text: F,S,number for each term, then /k if there is a term. */
-    static String terms(FermionMaps x) {
+    static String terms(Maps x) {
         StringBuilder text = new StringBuilder();
         long count = x.image(FermionMaps.NONE, 0);
         for (int i = 0; i < count; i++) {
@@ -74,7 +75,7 @@ final class Check {
     }
 
     /** All that can be asked without a change, for "changing nothing". */
-    static String all(FermionMaps x) {
+    static String all(Maps x) {
         StringBuilder text = new StringBuilder(sum(x)).append('|').append(terms(x)).append('|');
         for (int what = 0; what < 5; what++) {
             text.append(x.total(what)).append(' ');

@@ -1,15 +1,20 @@
 import java.util.NoSuchElementException;
 import java.util.Random;
 
-/** All promises: long runs of calls with arguments of all kinds, each compared with PlainModel. */
+/**
+ * All promises: runs of 512 calls on one object with arguments of all kinds, each compared with
+ * PlainModel; now and then all that another object with the same past answers.
+ */
 public final class RandomRunsTest {
     private static final int[] ODD = {Integer.MIN_VALUE, -1000001, -256, -2, -1, 8, 9, 60, 255, 256,
         257, 1000000, 1000001, Integer.MAX_VALUE};
 
+    private static final int MOST_OF_A_STEP = 8;
+
     private final Random random;
     private final String name;
-    private FermionMaps x = new FermionMaps();
-    private PlainModel model = new PlainModel();
+    private final Maps x = new Maps();
+    private final PlainModel model = new PlainModel();
     private int n = 1;
     private final boolean crowded;
     private final int[] counts = new int[6];
@@ -40,16 +45,19 @@ public final class RandomRunsTest {
         int size = seed < 400 ? 1 + seed % 5 : 1 + seed % 8;
         n = size;
         Check.due(name + "begin", x.begin(size), model.begin(size));
-        int calls = size > 6 ? 60 : 300;
-        for (int call = 0; call < calls; call++) {
-            if (random.nextInt(100) < 60) {
+        int steps = size > 6 ? 60 : 200;
+        for (int step = 1; step <= steps && x.calls() + MOST_OF_A_STEP < Maps.MOST_CALLS; step++) {
+            if (random.nextInt(100) < 75) {
                 change();
             } else {
                 ask();
             }
-            if (call % 25 == 24) {
+            if (step % 25 == 0) {
                 compare();
             }
+        }
+        while (x.calls() < Maps.MOST_CALLS) {
+            askForOne();
         }
         compare();
     }
@@ -118,9 +126,7 @@ public final class RandomRunsTest {
     }
 
     private void ask() {
-        int state = set();
-        Check.due(name + "written(" + state + ")", x.written(state), model.written(state));
-        Check.due(name + "read(" + state + ")", x.read(state), model.read(state));
+        askForOne();
         int what = odd(random.nextInt(n > 6 ? 3 : 5));
         Check.due(name + "total(" + what + ")", x.total(what), model.total(what));
         int from = set();
@@ -132,17 +138,29 @@ public final class RandomRunsTest {
         Check.due(name + "product(" + i + ", " + part + ")", Check.product(x, i, part),
             modelProduct(i, part));
         if (n < 6 || random.nextInt(10) == 0) {
-            Check.due(name + "image(" + i + ", " + part + ")", Check.image(x, i, part),
-                modelImage(i, part));
+            int terms = (int) model.image(FermionMaps.NONE, 0);
+            int term = terms > 0 && random.nextBoolean() ? random.nextInt(terms) : i;
+            Check.due(name + "image(" + term + ", " + part + ")", Check.image(x, term, part),
+                modelImage(term, part));
+        }
+    }
+
+    private void askForOne() {
+        int set = set();
+        if (random.nextBoolean()) {
+            Check.due(name + "written(" + set + ")", x.written(set), model.written(set));
+        } else {
+            Check.due(name + "read(" + set + ")", x.read(set), model.read(set));
         }
     }
 
     private void compare() {
-        Check.due(name + "the sum", Check.sum(x), model.sum());
+        Maps other = x.again();
+        Check.due(name + "the sum", Check.sum(other), model.sum());
         for (int what = -1; what < 6; what++) {
-            Check.due(name + "total(" + what + ")", x.total(what), model.total(what));
+            Check.due(name + "total(" + what + ")", other.total(what), model.total(what));
         }
-        Check.due(name + "the image", Check.terms(x), model.terms());
+        Check.due(name + "the image", Check.terms(other), model.terms());
     }
 
     private String modelMakes(int from, int to) {

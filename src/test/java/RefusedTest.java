@@ -10,13 +10,13 @@ public final class RefusedTest {
     private static final int NONE = FermionMaps.NONE;
 
     private final String name;
-    private final Consumer<FermionMaps> past;
+    private final Consumer<Maps> past;
     private final int n;
 
-    private RefusedTest(String name, Consumer<FermionMaps> past) {
+    private RefusedTest(String name, Consumer<Maps> past) {
         this.name = name;
         this.past = past;
-        FermionMaps x = new FermionMaps();
+        Maps x = new Maps();
         past.accept(x);
         n = x.total(0);
     }
@@ -83,14 +83,14 @@ public final class RefusedTest {
         return kinds;
     }
 
-    private static void fill(FermionMaps x) {
+    private static void fill(Maps x) {
         x.begin(3);
         for (int i = 0; i < 60; i++) {
             x.add(i / 8, i % 8, i % 2 == 0 ? 1000000 : -1000000);
         }
     }
 
-    private void refused(String call, Function<FermionMaps, Object> doing, Object want) {
+    private void refused(String call, Function<Maps, Object> doing, Object want) {
         Twins.refused(name + ": " + call, past, doing, want);
     }
 

@@ -1,3 +1,5 @@
+import java.util.function.Function;
+
 /** The edges of the terms and of promises 1 to 7, a test for each sentence that names one. */
 public final class SumEdgesTest {
     private static final int MIN = Integer.MIN_VALUE;
@@ -36,23 +38,24 @@ public final class SumEdgesTest {
         statesThatThereAre();
         greatestNumberMade();
         fiveHundredAndTwelveCalls();
+        eachCallAsTheLast();
         Check.end();
     }
 
-    private static FermionMaps of(int n) {
-        FermionMaps x = new FermionMaps();
+    private static Maps of(int n) {
+        Maps x = new Maps();
         Check.due("begin(" + n + ")", x.begin(n), true);
         return x;
     }
 
-    private static FermionMaps full() {
-        FermionMaps x = of(3);
+    private static Maps full() {
+        Maps x = of(3);
         fill(x);
         return x;
     }
 
     /** 60 of the 64 products on three modes: all but those of keys (7, 4) and beyond. */
-    private static void fill(FermionMaps x) {
+    private static void fill(Maps x) {
         x.begin(3);
         for (int i = 0; i < 60; i++) {
             Check.due("fill", x.add(i / 8, i % 8, i + 1), i + 1);
@@ -63,9 +66,9 @@ public final class SumEdgesTest {
     private static void laddersOnEachState() {
         for (int n = 1; n <= 8; n++) {
             for (int j = 0; j < n; j++) {
-                FermionMaps up = of(n);
+                Maps up = of(n);
                 up.add(1 << j, 0, 1);
-                FermionMaps down = of(n);
+                Maps down = of(n);
                 down.add(0, 1 << j, 1);
                 for (int from = 0; from < 1 << n; from++) {
                     boolean there = (from >> j) % 2 == 1;
@@ -84,7 +87,7 @@ public final class SumEdgesTest {
     private static void productsOnEachState() {
         for (int ups = 0; ups < 8; ups++) {
             for (int downs = 0; downs < 8; downs++) {
-                FermionMaps x = of(3);
+                Maps x = of(3);
                 x.add(ups, downs, 1);
                 for (int pair = 0; pair < 64; pair++) {
                     int from = pair / 8;
@@ -94,7 +97,7 @@ public final class SumEdgesTest {
                 }
             }
         }
-        FermionMaps all = of(8);
+        Maps all = of(8);
         all.add(255, 255, 1);
         Check.due("all down and up", all.makes(255, 255), oneByOne(255, 255, 255, 255));
         Check.due("one is missing", all.makes(254, 254), 0);
@@ -121,7 +124,7 @@ public final class SumEdgesTest {
     /** "(The empty PRODUCT leaves each STATE as it is.)" */
     private static void theEmptyProduct() {
         for (int n = 1; n <= 8; n++) {
-            FermionMaps x = of(n);
+            Maps x = of(n);
             x.add(0, 0, 7);
             for (int from = 0; from < 1 << n; from++) {
                 for (int to = 0; to < 1 << n; to++) {
@@ -133,7 +136,7 @@ public final class SumEdgesTest {
 
     /** "in the order of 256 * U + D", also where U goes up by one. */
     private static void orderOfProducts() {
-        FermionMaps x = of(8);
+        Maps x = of(8);
         int[][] sets = {{255, 255}, {1, 0}, {0, 0}, {255, 0}, {0, 255}, {254, 255}, {0, 1}};
         for (int i = 0; i < sets.length; i++) {
             Check.due("add", x.add(sets[i][0], sets[i][1], i + 1), i + 1);
@@ -161,7 +164,7 @@ public final class SumEdgesTest {
     }
 
     private static String ladders(int n, int j, boolean first, boolean second, boolean ahead) {
-        FermionMaps x = of(n);
+        Maps x = of(n);
         x.add(0, 0, 1);
         x.ladder(j, first, ahead);
         x.ladder(j, second, ahead);
@@ -177,7 +180,7 @@ public final class SumEdgesTest {
             int up = call / 192 % 2 == 0 ? 1 << j : 0;
             int down = (1 << j) - up;
             boolean ahead = call / 384 == 0;
-            FermionMaps x = of(3);
+            Maps x = of(3);
             x.add(ups, downs, 1);
             Check.due("4: count", x.ladder(j, up != 0, ahead), x.total(1));
             for (int pair = 0; pair < 64; pair++) {
@@ -195,7 +198,7 @@ public final class SumEdgesTest {
 
     /** Promise 1: "One MODE, an empty SUM, WAY 0." */
     private static void newObject() {
-        FermionMaps x = new FermionMaps();
+        Maps x = new Maps();
         Check.due("1: one mode", x.total(0), 1);
         Check.due("1: an empty sum", x.total(1), 0);
         Check.due("1: no product", Check.product(x, 0, 0), Check.THROWS);
@@ -216,19 +219,19 @@ public final class SumEdgesTest {
         Check.due("1: beyond", x.row(0, 2), false);
         Check.due("1: the last sets", x.add(1, 1, 1), 1);
         Check.due("1: beyond", x.add(2, 0, 1) + " " + x.add(0, 2, 1), "-1 -1");
-        Check.due("1: like begin(1)", Twins.later(new FermionMaps()), Twins.later(of(1)));
+        Check.due("1: like begin(1)", Twins.later(new Maps()), Twins.later(of(1)));
     }
 
     /** Promise 2: "n MODES .. true; false .. for another n", n is 1 .. 8. */
     private static void beginTakes() {
         for (int n = -300; n <= 300; n++) {
-            FermionMaps x = new FermionMaps();
+            Maps x = new Maps();
             boolean taken = n >= 1 && n <= 8;
             Check.due("2: begin(" + n + ")", x.begin(n), taken);
             Check.due("2: modes after begin(" + n + ")", x.total(0), taken ? n : 1);
         }
         for (int n : new int[] {MIN, MIN + 1, MIN + 8, MAX - 1, MAX, 1 << 8, 1 << 30}) {
-            Check.due("2: begin(" + n + ")", new FermionMaps().begin(n), false);
+            Check.due("2: begin(" + n + ")", new Maps().begin(n), false);
         }
     }
 
@@ -236,7 +239,7 @@ public final class SumEdgesTest {
     private static void beginLeavesNothing() {
         for (int n = 1; n <= 8; n++) {
             for (int kind = 0; kind < 4; kind++) {
-                FermionMaps x = of(8);
+                Maps x = of(8);
                 for (int wire = 0; wire < 8; wire++) {
                     x.row(wire, 256 - (1 << wire));
                 }
@@ -248,7 +251,7 @@ public final class SumEdgesTest {
                 Check.due("2: nothing is left", Twins.later(x), Twins.later(of(n)));
             }
         }
-        FermionMaps waiting = of(2);
+        Maps waiting = of(2);
         waiting.row(0, 0);
         waiting.begin(2);
         Check.due("2: rows as of 0", waiting.way(3), true);
@@ -259,7 +262,7 @@ public final class SumEdgesTest {
     private static void setsThatAddTakes() {
         for (int n = 1; n <= 8; n++) {
             int last = (1 << n) - 1;
-            FermionMaps x = of(n);
+            Maps x = of(n);
             Check.due("3: the first sets", x.add(0, 0, 1), 1);
             Check.due("3: the last ups", x.add(last, 0, 2), 2);
             Check.due("3: the last downs", x.add(0, last, 3), 3);
@@ -277,7 +280,7 @@ public final class SumEdgesTest {
     /** Promise 3: "number is beyond -1000000 .. 1000000" */
     private static void numbersThatAddTakes() {
         for (int number : new int[] {MOST, -MOST, MOST - 1, 1 - MOST, 1, -1}) {
-            FermionMaps x = of(2);
+            Maps x = of(2);
             Check.due("3: add " + number, x.add(1, 2, number), 1);
             Check.due("3: number", Check.product(x, 0, 2), number);
         }
@@ -294,7 +297,7 @@ public final class SumEdgesTest {
     /** Promise 3: "or the SUM would have a number beyond" */
     private static void numbersBeyondInTheSum() {
         for (int sign : new int[] {1, -1}) {
-            FermionMaps x = of(2);
+            Maps x = of(2);
             x.add(1, 2, sign * (MOST - 1));
             Check.due("3: to the last number", x.add(1, 2, sign), 1);
             Check.due("3: that is it", Check.product(x, 0, 2), sign * MOST);
@@ -313,7 +316,7 @@ public final class SumEdgesTest {
 
     /** Terms: "each with a whole number (not 0)" */
     private static void numberNought() {
-        FermionMaps x = of(2);
+        Maps x = of(2);
         Check.due("3: none of one", x.add(3, 3, 0), 0);
         Check.due("3: not there", Check.sum(x), "");
         x.add(0, 0, MOST);
@@ -346,7 +349,7 @@ public final class SumEdgesTest {
             }
         }, x -> x.add(0, 0, 1), NONE);
         Twins.refused("3: none of a 61st", SumEdgesTest::fill, x -> x.add(7, 7, 0), 60);
-        FermionMaps x = full();
+        Maps x = full();
         Check.due("3: one of the 60", x.add(0, 0, 1), 60);
         Check.due("3: one of the 60", x.add(7, 3, -61), 60);
         Check.due("3: 59", x.add(3, 3, -28), 59);
@@ -362,13 +365,13 @@ public final class SumEdgesTest {
                 boolean up = kind % 2 == 0;
                 boolean ahead = kind < 2;
                 for (int j = 0; j < n; j++) {
-                    FermionMaps x = of(n);
+                    Maps x = of(n);
                     x.add(0, 0, 3);
                     Check.due("4: ladder " + j, x.ladder(j, up, ahead), 1);
                     String set = up ? (1 << j) + ",0,3" : "0," + (1 << j) + ",3";
                     Check.due("4: sum", Check.sum(x), set);
                 }
-                FermionMaps x = of(n);
+                Maps x = of(n);
                 x.add(0, 0, 3);
                 for (int none : new int[] {n, -1, 8, 31, 32, 33, -32, MIN, MAX}) {
                     Check.due("4: ladder " + none, x.ladder(none, up, ahead), NONE);
@@ -382,7 +385,7 @@ public final class SumEdgesTest {
     private static void ladderToTheGreatestNumber() {
         for (int sign : new int[] {1, -1}) {
             for (boolean up : new boolean[] {true, false}) {
-                FermionMaps x = new FermionMaps();
+                Maps x = new Maps();
                 x.add(0, 0, sign * (MOST - 1));
                 x.add(1, 1, sign);
                 Check.due("4: to the last number", x.ladder(0, up, !up), 1);
@@ -397,17 +400,17 @@ public final class SumEdgesTest {
                     y.add(2, 2, sign * MOST);
                     y.add(3, 3, -sign);
                 }, y -> y.ladder(0, up, !up), NONE);
-                FermionMaps alone = new FermionMaps();
+                Maps alone = new Maps();
                 alone.add(0, 0, sign * MOST);
                 Check.due("4: greatest number alone", alone.ladder(0, up, !up), 1);
                 Check.due("4: it stays", Check.product(alone, 0, 2), sign * MOST);
-                FermionMaps away = new FermionMaps();
+                Maps away = new Maps();
                 away.add(0, 0, sign * MOST);
                 away.add(1, 1, -sign * MOST);
                 Check.due("4: greatest numbers take each other away", away.ladder(0, up, !up), 0);
             }
         }
-        FermionMaps turned = new FermionMaps();
+        Maps turned = new Maps();
         turned.begin(2);
         turned.add(1, 0, MOST);
         turned.add(2, 2, -MOST);
@@ -415,14 +418,14 @@ public final class SumEdgesTest {
         Check.due("4: turned round at the end", Check.sum(turned), "3,0,-1000000");
     }
 
-    private static void addOddUps(FermionMaps x, int count) {
+    private static void addOddUps(Maps x, int count) {
         x.begin(8);
         for (int i = 0; i < count; i++) {
             Check.due("add", x.add(2 * i + 1, 0, 1), i + 1);
         }
     }
 
-    private static void addOddDowns(FermionMaps x, int count) {
+    private static void addOddDowns(Maps x, int count) {
         x.begin(8);
         for (int i = 0; i < count; i++) {
             Check.due("add", x.add(0, 2 * i + 1, 1), i + 1);
@@ -431,10 +434,10 @@ public final class SumEdgesTest {
 
     /** Promise 4: "or as for add()": more than 60; each of these becomes two where they meet. */
     private static void ladderToSixtyAndNoMore() {
-        FermionMaps x = new FermionMaps();
+        Maps x = new Maps();
         addOddUps(x, 30);
         Check.due("4: 60 of 30", x.ladder(0, false, true), 60);
-        FermionMaps y = new FermionMaps();
+        Maps y = new Maps();
         addOddDowns(y, 30);
         Check.due("4: 60 of 30", y.ladder(0, true, false), 60);
         Twins.refused("4: 62 of 31", z -> addOddUps(z, 31), z -> z.ladder(0, false, true), NONE);
@@ -451,7 +454,7 @@ public final class SumEdgesTest {
     }
 
     /** 29 products that become 58, and pairs of products, from one on, that come to one place. */
-    private static void addPairs(FermionMaps x, int first, int pairs, boolean takeAway) {
+    private static void addPairs(Maps x, int first, int pairs, boolean takeAway) {
         x.begin(8);
         for (int i = 40; i < 69; i++) {
             x.add(2 * i + 1, 0, 1);
@@ -467,12 +470,12 @@ public final class SumEdgesTest {
     /** Promise 4: "the SUM would have .. more than 60": what counts is what comes together. */
     private static void ladderWherePairsMeet() {
         for (int first : new int[] {0, 45, 90}) {
-            FermionMaps x = new FermionMaps();
+            Maps x = new Maps();
             addPairs(x, first, 2, false);
             Check.due("4: 58, and two of two pairs", x.ladder(0, false, true), 60);
             Twins.refused("4: 58, and three of three pairs", y -> addPairs(y, first, 3, false),
                 y -> y.ladder(0, false, true), NONE);
-            FermionMaps away = new FermionMaps();
+            Maps away = new Maps();
             addPairs(away, first, 15, true);
             Check.due("4: 58, and none of 15 pairs", away.ladder(0, false, true), 58);
             Check.due("4: the last of 58", Check.product(away, 57, 0), "137");
@@ -498,8 +501,8 @@ public final class SumEdgesTest {
 
     /** Promise 4: what a ladder makes is seen, whatever was asked before. */
     private static void ladderAfterQuestions() {
-        FermionMaps x = of(3);
-        FermionMaps other = of(3);
+        Maps x = of(3);
+        Maps other = of(3);
         x.add(1, 2, 3);
         other.add(1, 2, 3);
         Twins.answers(x);
@@ -512,7 +515,7 @@ public final class SumEdgesTest {
         for (int kind = 0; kind < 4; kind++) {
             boolean up = kind % 2 == 0;
             boolean ahead = kind < 2;
-            FermionMaps x = of(8);
+            Maps x = of(8);
             for (int i = 0; i < 60; i++) {
                 x.add(up ? i : 1, up ? 1 : i, i % 2 == 0 ? MOST : -MOST);
             }
@@ -520,16 +523,16 @@ public final class SumEdgesTest {
             Check.due("4: none of 60", x.ladder(7, up, ahead), 0);
             Check.due("4: none of none", x.ladder(7, !up, ahead), 0);
         }
-        FermionMaps meeting = of(8);
+        Maps meeting = of(8);
         for (int i = 0; i < 30; i++) {
             meeting.add(2 * i, 0, 1);
             meeting.add(2 * i + 61, 1, 1);
         }
         Check.due("4: 30 that join, then 30 that meet", meeting.ladder(0, false, true), 60);
         Check.due("4: the last", Check.product(meeting, 59, 0), "118");
-        FermionMaps half = full();
+        Maps half = full();
         Check.due("4: the half with bit 2 is nothing", half.ladder(2, true, true), 32);
-        FermionMaps first = full();
+        Maps first = full();
         first.ladder(0, false, false);
         Check.due("4: the first of them", Check.product(first, 0, 1), "1");
     }
@@ -546,7 +549,7 @@ public final class SumEdgesTest {
 
     /** Promise 5: "The SUM is empty.", and nothing else is another. */
     private static void clear() {
-        FermionMaps x = full();
+        Maps x = full();
         x.clear();
         Check.due("5: full, then empty", x.total(1), 0);
         Check.due("5: no product", Check.product(x, 0, 2), Check.THROWS);
@@ -558,8 +561,8 @@ public final class SumEdgesTest {
             return "";
         }, "");
         for (int kind = 0; kind < 4; kind++) {
-            FermionMaps z = of(3);
-            FermionMaps other = of(3);
+            Maps z = of(3);
+            Maps other = of(3);
             for (int wire = 0; wire < 3; wire++) {
                 z.row(wire, 7 >> wire);
                 other.row(wire, 7 >> wire);
@@ -577,7 +580,7 @@ public final class SumEdgesTest {
 
     /** Promise 6: "NoSuchElementException: there is none such, or no such what." */
     private static void productsThatThereAre() {
-        FermionMaps x = full();
+        Maps x = full();
         for (int i = 0; i < 60; i++) {
             Check.due("6: U", Check.product(x, i, 0), i / 8);
             Check.due("6: D", Check.product(x, i, 1), i % 8);
@@ -597,7 +600,7 @@ public final class SumEdgesTest {
         x.add(0, 0, -1);
         Check.due("6: the last of 59", Check.product(x, 58, 2), "60");
         Check.due("6: no 60th", Check.product(x, 59, 2), Check.THROWS);
-        FermionMaps empty = of(8);
+        Maps empty = of(8);
         for (int what = -1; what < 4; what++) {
             Check.due("6: empty", Check.product(empty, 0, what), Check.THROWS);
             Check.due("6: empty", Check.product(empty, -1, what), Check.THROWS);
@@ -608,7 +611,7 @@ public final class SumEdgesTest {
     private static void statesThatThereAre() {
         for (int n = 1; n <= 8; n++) {
             int last = (1 << n) - 1;
-            FermionMaps x = of(n);
+            Maps x = of(n);
             Check.due("7: of an empty sum", Check.makes(x, last, last), "0");
             for (int round = 0; round < 2; round++) {
                 for (int none : new int[] {-1, last + 1, last + 2, 256, MIN, MAX}) {
@@ -628,7 +631,7 @@ public final class SumEdgesTest {
     /** Promise 7: 60 PRODUCTS with the greatest numbers make 60 times as much. */
     private static void greatestNumberMade() {
         for (int sign : new int[] {1, -1}) {
-            FermionMaps x = of(8);
+            Maps x = of(8);
             for (int set = 0; set < 60; set++) {
                 x.add(set, set, sign * oneByOne(set, set, 255, 255) * MOST);
             }
@@ -639,7 +642,7 @@ public final class SumEdgesTest {
 
     /** "An object is used for at most 512 calls": the 512th still answers as the first did. */
     private static void fiveHundredAndTwelveCalls() {
-        FermionMaps x = new FermionMaps();
+        Maps x = new Maps();
         for (int call = 1; call < 512; call += 7) {
             Check.due("begin", x.begin(1 + call % 8), true);
             Check.due("add", x.add(1, 0, 2 * call + 1), 1);
@@ -650,5 +653,39 @@ public final class SumEdgesTest {
             Check.due("total", x.total(3), 1);
         }
         Check.due("512th", Check.product(x, 1, 2), "-1011");
+        Check.due("all of one object", x.calls(), 512);
+    }
+
+    /** "An object is used for at most 512 calls", whichever of them comes last. */
+    private static void eachCallAsTheLast() {
+        last("begin", x -> x.begin(2), true);
+        last("add", x -> x.add(1, 1, 1), 2);
+        last("ladder", x -> x.ladder(2, false, true), 2);
+        last("clear", x -> {
+            x.clear();
+            return "";
+        }, "");
+        last("product", x -> x.product(0, 2), 5);
+        last("no product", x -> Check.product(x, 1, 2), Check.THROWS);
+        last("makes", x -> x.makes(3, 6), -5);
+        last("no state", x -> Check.makes(x, 3, 8), Check.THROWS);
+        last("way", x -> x.way(3), true);
+        last("row", x -> x.row(1, 1), true);
+        last("written", x -> x.written(5), 5);
+        last("read", x -> x.read(5), 5);
+        last("image", x -> x.image(3, 2), -5L);
+        last("no term", x -> Check.image(x, 4, 2), Check.THROWS);
+        last("total", x -> x.total(3), 3);
+    }
+
+    private static void last(String name, Function<Maps, Object> call, Object want) {
+        Maps x = of(3);
+        x.add(4, 1, 5);
+        x.row(0, 7);
+        while (x.calls() < Maps.MOST_CALLS - 1) {
+            Check.due("one of 511", x.image(0, 1), 2);
+        }
+        Check.due(name + " as the 512th call", call.apply(x), want);
+        Check.due(name + " of the same object", x.calls(), Maps.MOST_CALLS);
     }
 }

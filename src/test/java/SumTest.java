@@ -24,33 +24,33 @@ public final class SumTest {
         Check.end();
     }
 
-    private static FermionMaps of(int n) {
-        FermionMaps x = new FermionMaps();
+    private static Maps of(int n) {
+        Maps x = new Maps();
         Check.due("begin(" + n + ")", x.begin(n), true);
         return x;
     }
 
-    private static FermionMaps of(int n, int ups, int downs, int number) {
-        FermionMaps x = of(n);
+    private static Maps of(int n, int ups, int downs, int number) {
+        Maps x = of(n);
         Check.due("first add", x.add(ups, downs, number), 1);
         return x;
     }
 
     private static void newObject() {
-        FermionMaps x = new FermionMaps();
+        Maps x = new Maps();
         Check.due("1: all", Check.all(x), "||1 0 0 0 1 0 0 1 1 ");
         Check.due("1: add(2, 0, 1)", x.add(2, 0, 1), -1);
         Check.due("1: row(1, 1)", x.row(1, 1), false);
         Check.due("1: way(3), rows as of 0", x.way(3), true);
         Check.due("1: read(1)", x.read(1), 1);
-        FermionMaps other = new FermionMaps();
+        Maps other = new Maps();
         Check.due("1: add(1, 0, 1)", x.add(1, 0, 1), 1);
         Check.due("1: objects have nothing in common", Check.sum(other), "");
     }
 
     private static void begin() {
         for (int n = 1; n <= 8; n++) {
-            FermionMaps x = of(n, 1, 1, 3);
+            Maps x = of(n, 1, 1, 3);
             int last = 1 << (n - 1);
             Check.due("2: row", x.row(n - 1, last | 1), true);
             Check.due("2: way(3)", x.way(3), true);
@@ -70,7 +70,7 @@ public final class SumTest {
     }
 
     private static void beginRefused() {
-        FermionMaps x = of(3, 5, 2, 7);
+        Maps x = of(3, 5, 2, 7);
         x.row(0, 7);
         x.way(3);
         String before = Check.all(x);
@@ -81,7 +81,7 @@ public final class SumTest {
     }
 
     private static void add() {
-        FermionMaps x = of(8);
+        Maps x = of(8);
         Check.due("3: add", x.add(2, 255, 4), 1);
         Check.due("3: add", x.add(3, 0, -5), 2);
         Check.due("3: add", x.add(0, 9, 1000000), 3);
@@ -99,7 +99,7 @@ public final class SumTest {
     }
 
     private static void addRefused() {
-        FermionMaps x = of(2, 1, 2, 999999);
+        Maps x = of(2, 1, 2, 999999);
         x.add(2, 1, -999999);
         String before = Check.all(x);
         int[][] wrong = {{4, 0, 1}, {0, 4, 1}, {-1, 0, 1}, {0, -1, 1}, {MIN, 0, 1}, {0, MAX, 1},
@@ -115,7 +115,7 @@ public final class SumTest {
     }
 
     private static void addAtSixty() {
-        FermionMaps x = of(3);
+        Maps x = of(3);
         for (int i = 0; i < 60; i++) {
             Check.due("3: count", x.add(7 - i / 8, 7 - i % 8, i + 1), i + 1);
         }
@@ -131,7 +131,7 @@ public final class SumTest {
         Check.due("3: last", Check.product(x, 59, 2), "6");
     }
 
-    private static String after(FermionMaps x, int j, boolean up, boolean ahead) {
+    private static String after(Maps x, int j, boolean up, boolean ahead) {
         int count = x.ladder(j, up, ahead);
         Check.due("4: answer is the count", count, x.total(1));
         return Check.sum(x);
@@ -172,23 +172,23 @@ public final class SumTest {
         Check.due("4: both there", after(of(1, 1, 1, 5), 0, true, false), "1,0,5");
         Check.due("4: sign at meeting", after(of(3, 3, 4, 5), 1, false, true), "1,4,-5 3,6,5");
         Check.due("4: sign at meeting", after(of(3, 4, 3, 5), 0, true, false), "4,2,-5 5,3,-5");
-        FermionMaps x = of(2, 0, 0, 4);
+        Maps x = of(2, 0, 0, 4);
         x.add(1, 1, 4);
         Check.due("4: two come to one place", after(x, 0, false, true), "0,1,8");
-        FermionMaps y = of(2, 0, 0, 4);
+        Maps y = of(2, 0, 0, 4);
         y.add(1, 1, -4);
         Check.due("4: two take each other away", after(y, 0, false, true), "");
     }
 
     private static void ladderRefused() {
-        FermionMaps x = of(3, 1, 2, 600000);
+        Maps x = of(3, 1, 2, 600000);
         String before = Check.all(x);
         for (int j : new int[] {-1, 3, 8, 32, MIN, MAX}) {
             Check.due("4: no such mode", x.ladder(j, true, true), -1);
             Check.due("4: no such mode", x.ladder(j, false, false), -1);
             Check.due("4: nothing changed", Check.all(x), before);
         }
-        FermionMaps y = of(2, 0, 0, 600000);
+        Maps y = of(2, 0, 0, 600000);
         y.add(1, 1, 600000);
         y.add(2, 2, 1);
         String was = Check.all(y);
@@ -201,7 +201,7 @@ public final class SumTest {
     }
 
     private static void ladderJudgedByItsEnd() {
-        FermionMaps x = of(8);
+        Maps x = of(8);
         for (int i = 0; i < 31; i++) {
             x.add(1 | 2 * i, 0, 1);
         }
@@ -211,7 +211,7 @@ public final class SumTest {
         x.add(1, 0, -1);
         Check.due("4: 60 of 30", x.ladder(0, false, true), 60);
         Check.due("4: 30 of 60", x.ladder(0, true, true), 30);
-        FermionMaps y = of(8);
+        Maps y = of(8);
         for (int i = 0; i < 30; i++) {
             y.add(2 * i, 0, 1000000);
             y.add(2 * i | 1, 1, Integer.bitCount(i) % 2 == 0 ? -1000000 : 1000000);
@@ -221,7 +221,7 @@ public final class SumTest {
     }
 
     private static void clear() {
-        FermionMaps x = of(4, 3, 5, 2);
+        Maps x = of(4, 3, 5, 2);
         x.row(0, 3);
         x.way(3);
         Check.due("5: image before", x.image(-1, 0), 8);
@@ -237,7 +237,7 @@ public final class SumTest {
     }
 
     private static void product() {
-        FermionMaps x = of(8, 200, 100, -77);
+        Maps x = of(8, 200, 100, -77);
         x.add(3, 255, 8);
         Check.due("6: U", Check.product(x, 1, 0), "200");
         Check.due("6: D", Check.product(x, 1, 1), "100");
@@ -255,7 +255,7 @@ public final class SumTest {
     }
 
     private static void makes() {
-        FermionMaps x = of(3, 4, 1, 5);
+        Maps x = of(3, 4, 1, 5);
         Check.due("7: moved", x.makes(1, 4), 5);
         Check.due("7: moved past one", x.makes(3, 6), -5);
         Check.due("7: not there", x.makes(2, 4), 0);
@@ -264,12 +264,12 @@ public final class SumTest {
         Check.due("7: not there", x.makes(0, 5), 0);
         Check.due("7: another end", x.makes(1, 2), 0);
         Check.due("7: not the other way", x.makes(4, 1), 0);
-        FermionMaps y = of(3, 0, 6, 1);
+        Maps y = of(3, 0, 6, 1);
         Check.due("7: greatest first", y.makes(6, 0), -1);
         Check.due("7: greatest first", y.makes(7, 1), -1);
-        FermionMaps z = of(3, 7, 0, 2);
+        Maps z = of(3, 7, 0, 2);
         Check.due("7: ups greatest first", z.makes(0, 7), 2);
-        FermionMaps both = of(3, 6, 6, 3);
+        Maps both = of(3, 6, 6, 3);
         Check.due("7: there and there again", both.makes(7, 7), -3);
         both.add(0, 0, 10);
         both.add(1, 1, 100);
@@ -277,7 +277,7 @@ public final class SumTest {
         Check.due("7: some", both.makes(1, 1), 110);
         Check.due("7: the empty product", both.makes(0, 0), 10);
         Check.due("7: nothing", both.makes(0, 1), 0);
-        FermionMaps great = of(8);
+        Maps great = of(8);
         for (int i = 0; i < 60; i++) {
             great.add(i, i, Integer.bitCount(i) % 4 > 1 ? -1000000 : 1000000);
         }
@@ -285,7 +285,7 @@ public final class SumTest {
     }
 
     private static void makesRefused() {
-        FermionMaps x = of(3, 4, 1, 5);
+        Maps x = of(3, 4, 1, 5);
         int[][] none = {{8, 0}, {0, 8}, {-1, 0}, {0, -1}, {MIN, 0}, {0, MAX}, {256, 256}};
         for (int[] call : none) {
             Check.due("7: makes(" + call[0] + ", " + call[1] + ")",

@@ -3,17 +3,18 @@ import java.util.function.Function;
 
 /** For "changing nothing": of two objects with the same past, one alone gets the refused call. */
 final class Twins {
-    private static final int MOST_TERMS_READ = 200;
+    private static final int MOST_TERMS_READ = 40;
+    private static final int MOST_STATES_READ = 32;
 
     private Twins() {
     }
 
     /** The call answers what is due, and both objects answer all later calls alike. */
-    static void refused(String name, Consumer<FermionMaps> past,
-            Function<FermionMaps, Object> call, Object want) {
+    static void refused(String name, Consumer<Maps> past,
+            Function<Maps, Object> call, Object want) {
         for (boolean asked : new boolean[] {false, true}) {
-            FermionMaps x = new FermionMaps();
-            FermionMaps other = new FermionMaps();
+            Maps x = new Maps();
+            Maps other = new Maps();
             past.accept(x);
             past.accept(other);
             if (asked) {
@@ -25,7 +26,7 @@ final class Twins {
     }
 
     /** A run of calls that brings to light all that an object keeps, rows for way 3 too. */
-    static String later(FermionMaps x) {
+    static String later(Maps x) {
         StringBuilder text = new StringBuilder(answers(x));
         text.append(" add ").append(x.add(0, 0, 1)).append(answers(x));
         text.append(" ladder ").append(x.ladder(0, false, true)).append(answers(x));
@@ -42,18 +43,11 @@ final class Twins {
         return text.toString();
     }
 
-    /** What an object answers without a change; of very many terms, some. */
-    static String answers(FermionMaps x) {
-        StringBuilder text = new StringBuilder(" sum ").append(Check.sum(x)).append(" totals");
+    /** What an object answers without a change, the image first; of very much, some. */
+    static String answers(Maps x) {
+        StringBuilder text = new StringBuilder(" totals");
         for (int what = 0; what < 5; what++) {
             text.append(' ').append(x.total(what));
-        }
-        int last = (1 << x.total(0)) - 1;
-        text.append(" states");
-        for (int state = 0; state <= last; state++) {
-            text.append(' ').append(x.written(state)).append(' ').append(x.read(state));
-            text.append(' ').append(x.makes(state, state));
-            text.append(' ').append(x.makes(state, last - state));
         }
         int terms = (int) x.image(FermionMaps.NONE, 0);
         text.append(" terms ").append(terms);
@@ -62,6 +56,13 @@ final class Twins {
                 text.append(' ').append(x.image(i, what));
             }
         }
-        return text.toString();
+        int last = (1 << x.total(0)) - 1;
+        text.append(" states");
+        for (int state = 0; state <= last; state += last / MOST_STATES_READ | 1) {
+            text.append(' ').append(x.written(state)).append(' ').append(x.read(state));
+            text.append(' ').append(x.makes(state, state));
+            text.append(' ').append(x.makes(state, last - state));
+        }
+        return text.append(" sum ").append(Check.sum(x)).toString();
     }
 }

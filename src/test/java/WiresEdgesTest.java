@@ -33,14 +33,14 @@ public final class WiresEdgesTest {
         Check.end();
     }
 
-    private static FermionMaps of(int n) {
-        FermionMaps x = new FermionMaps();
+    private static Maps of(int n) {
+        Maps x = new Maps();
         Check.due("begin(" + n + ")", x.begin(n), true);
         return x;
     }
 
-    private static FermionMaps of(int n, int ups, int downs, int number) {
-        FermionMaps x = of(n);
+    private static Maps of(int n, int ups, int downs, int number) {
+        Maps x = of(n);
         Check.due("first add", x.add(ups, downs, number), 1);
         return x;
     }
@@ -59,7 +59,7 @@ public final class WiresEdgesTest {
             {1, 3, 4, 15, 16, 48, 64, 255}};
         for (int n = 1; n <= 8; n++) {
             for (int kind = 0; kind < 3; kind++) {
-                FermionMaps x = of(n);
+                Maps x = of(n);
                 Check.due("8: way", x.way(kind), true);
                 for (int state = 0; state < 1 << n; state++) {
                     int bits = bits(rows[kind], n, state);
@@ -73,7 +73,7 @@ public final class WiresEdgesTest {
     /** Promise 8: "false, changing nothing, if there is no such WAY" */
     private static void waysThatThereAre() {
         for (int n = 1; n <= 8; n++) {
-            FermionMaps x = of(n);
+            Maps x = of(n);
             for (int kind = 0; kind < 4; kind++) {
                 Check.due("8: way(" + kind + ")", x.way(kind), true);
                 Check.due("8: the way now", x.total(2), kind);
@@ -88,8 +88,9 @@ public final class WiresEdgesTest {
     /** "Each STATE must be written otherwise.": all rows on one, two and three wires. */
     private static void twoStatesAlike() {
         for (int n = 1; n <= 3; n++) {
-            FermionMaps x = of(n);
+            Maps x = of(n);
             for (int all = 0; all < 1 << (n * n); all++) {
+                x = all % 16 == 0 ? of(n) : x;
                 int[] rows = new int[n];
                 x.way(all % 3);
                 for (int wire = 0; wire < n; wire++) {
@@ -111,7 +112,7 @@ public final class WiresEdgesTest {
                 }
             }
         }
-        FermionMaps x = of(8);
+        Maps x = of(8);
         for (int wire = 0; wire < 8; wire++) {
             x.row(wire, 255 - (1 << wire));
         }
@@ -140,7 +141,7 @@ public final class WiresEdgesTest {
             }
         }
         Twins.refused("8: one empty row", x -> x.row(0, 0), x -> x.way(3), false);
-        FermionMaps x = of(2);
+        Maps x = of(2);
         x.row(0, 3);
         x.row(1, 3);
         Check.due("8: alike", x.way(3), false);
@@ -168,7 +169,7 @@ public final class WiresEdgesTest {
     private static void wiresAndSetsThatRowTakes() {
         for (int n = 1; n <= 8; n++) {
             int last = (1 << n) - 1;
-            FermionMaps x = of(n);
+            Maps x = of(n);
             for (int wire = 0; wire < n; wire++) {
                 Check.due("9: the empty set", x.row(wire, 0), true);
                 Check.due("8: an empty row", x.way(3), false);
@@ -205,7 +206,7 @@ public final class WiresEdgesTest {
                 }, x -> x.row(at, modes), false);
             }
         }
-        FermionMaps x = of(2);
+        Maps x = of(2);
         x.way(3);
         Check.due("9: by way 3, as it is", x.row(0, 1), false);
         for (int kind = 0; kind < 3; kind++) {
@@ -222,7 +223,7 @@ public final class WiresEdgesTest {
     private static void statesThatAreWritten() {
         for (int n = 1; n <= 8; n++) {
             int last = (1 << n) - 1;
-            FermionMaps x = of(n);
+            Maps x = of(n);
             for (int kind = 0; kind < 4; kind++) {
                 x.way(kind);
                 Check.due("10: the first", x.written(0), 0);
@@ -238,7 +239,7 @@ public final class WiresEdgesTest {
     private static void wiresThatAreRead() {
         for (int n = 1; n <= 8; n++) {
             int last = (1 << n) - 1;
-            FermionMaps x = of(n);
+            Maps x = of(n);
             for (int kind = 0; kind < 4; kind++) {
                 x.way(kind);
                 Check.due("11: the first", x.read(0), 0);
@@ -262,7 +263,7 @@ public final class WiresEdgesTest {
 
     /** Promise 12: "NoSuchElementException: there is none such, or no such what." */
     private static void termsThatThereAre() {
-        FermionMaps x = of(3, 4, 1, 5);
+        Maps x = of(3, 4, 1, 5);
         for (int what = 0; what < 4; what++) {
             Check.due("12: the first", Check.image(x, 0, what), new int[] {5, 2, 5, 2}[what]);
             Check.due("12: the last", Check.image(x, 3, what), new int[] {5, 7, -5, 2}[what]);
@@ -281,7 +282,7 @@ public final class WiresEdgesTest {
     /** Promise 12: "there is none such": of an empty SUM no TERM, and so no k of one. */
     private static void noTerms() {
         for (int kind = 0; kind < 4; kind++) {
-            FermionMaps x = of(4, 8, 0, 3);
+            Maps x = of(4, 8, 0, 3);
             x.way(kind);
             Check.due("12: two terms", x.image(NONE, 0), 2);
             Check.due("12: k", x.image(1, 3), 1);
@@ -300,7 +301,7 @@ public final class WiresEdgesTest {
         for (int n = 1; n <= 8; n++) {
             for (int power = 0; power <= 12; power++) {
                 int k = Math.max(0, n - power);
-                FermionMaps x = of(n, (1 << n) - 1, 0, 3 << power);
+                Maps x = of(n, (1 << n) - 1, 0, 3 << power);
                 Check.due("12: k of 3 * 2^" + power, Check.image(x, 0, 3), k);
                 long number = 3L << (power + k - n);
                 Check.due("12: number", Math.abs(x.image(0, 2)), number);
@@ -310,22 +311,39 @@ public final class WiresEdgesTest {
                 Check.due("12: one k for all", Check.image(x, 0, 2), 1 << k);
             }
         }
-        FermionMaps x = of(1, 0, 0, -1);
+        Maps x = of(1, 0, 0, -1);
         Check.due("12: k of 1", Check.image(x, 0, 3), "0");
         x.add(1, 1, 1);
         Check.due("12: k of halves", Check.terms(x), "0,0,-1 0,1,-1 /1");
         x.add(1, 1, 1);
         Check.due("12: k falls again", Check.terms(x), "0,1,-1 /0");
+        Check.due("12: k by the first", Check.terms(pair(4, 2)), "0,0,3 0,1,-2 0,2,-1 /0");
+        Check.due("12: k by the second", Check.terms(pair(1, 2)), "0,0,3 0,1,-1 0,2,-2 /1");
+        Check.due("12: k by the third", Check.terms(pair(2, 1)), "0,0,3 0,1,-2 0,2,-1 /1");
+        Check.due("12: k by the last two", Check.terms(pair(3, 1)), "0,0,4 0,1,-3 0,2,-1 /1");
+        Maps flips = of(2, 3, 0, 8);
+        Check.due("12: k by the first flips", Check.image(flips, 3, 3), "0");
+        flips.add(1, 0, 1);
+        Check.due("12: k by other flips", Check.image(flips, 5, 3), "1");
+        flips.add(1, 2, 1);
+        Check.due("12: k by flips alike", Check.image(flips, 0, 3), "2");
+    }
+
+    /** So often mode 0 that is there, and so often mode 1. */
+    private static Maps pair(int first, int second) {
+        Maps x = of(2, 1, 1, first);
+        x.add(2, 2, second);
+        return x;
     }
 
     /** "each with a whole number (not 0)": what is 0 together is no TERM. */
     private static void numbersNotNought() {
-        FermionMaps x = of(1, 1, 0, 7);
+        Maps x = of(1, 1, 0, 7);
         x.add(0, 1, 7);
         Check.due("12: flip alone", Check.terms(x), "1,0,7 /0");
         x.add(0, 1, -14);
         Check.due("12: flip and sign alone", Check.terms(x), "1,1,7 /0");
-        FermionMaps y = of(8);
+        Maps y = of(8);
         for (int mode = 0; mode < 8; mode++) {
             y.add(1 << mode, 1 << mode, -2);
         }
@@ -340,7 +358,7 @@ public final class WiresEdgesTest {
     /** Numbers of an image beyond an int, on both sides. */
     private static void greatestNumbers() {
         for (int sign : new int[] {1, -1}) {
-            FermionMaps x = of(8);
+            Maps x = of(8);
             for (int set = 0; set < 255; set++) {
                 if (Integer.bitCount(set) <= 2 || set > 240) {
                     boolean turned = Integer.bitCount(set) / 2 % 2 == 1;
@@ -360,7 +378,7 @@ public final class WiresEdgesTest {
 
     /** "in the order of 256 * F + S" */
     private static void orderOfTerms() {
-        FermionMaps x = of(8, 255, 0, 2);
+        Maps x = of(8, 255, 0, 2);
         x.add(0, 0, 2);
         x.add(1, 0, 2);
         x.add(128, 128, 2);
@@ -376,7 +394,7 @@ public final class WiresEdgesTest {
 
     /** The most TERMS that a full SUM has. */
     private static void mostTerms() {
-        FermionMaps x = of(8);
+        Maps x = of(8);
         for (int i = 0; i < 60; i++) {
             x.add(255, 255 - i, i % 2 == 0 ? MOST : 1 - MOST);
         }
@@ -393,7 +411,7 @@ public final class WiresEdgesTest {
 
     /** "It makes of each written STATE what the SUM makes of the STATE, written." */
     private static void imageMakesWhatTheSumMakes() {
-        FermionMaps x = of(4);
+        Maps x = of(4);
         x.row(0, 15);
         x.row(2, 6);
         for (int i = 0; i < 60; i++) {
@@ -421,7 +439,7 @@ public final class WiresEdgesTest {
 
     /** Promise 13: "NONE for another what." */
     private static void totalsThatThereAre() {
-        for (FermionMaps x : new FermionMaps[] {new FermionMaps(), of(8), of(8, 255, 0, 1)}) {
+        for (Maps x : new Maps[] {new Maps(), of(8), of(8, 255, 0, 1)}) {
             Check.due("13: the first", x.total(0) != NONE, true);
             Check.due("13: the last", x.total(4) != NONE, true);
             for (int what : new int[] {-1, 5, 6, -5, 256, MIN, MAX}) {
@@ -431,7 +449,7 @@ public final class WiresEdgesTest {
         for (int n = 1; n <= 8; n++) {
             Check.due("13: modes", of(n).total(0), n);
         }
-        FermionMaps x = of(8);
+        Maps x = of(8);
         for (int i = 0; i <= 60; i++) {
             Check.due("13: products", x.total(1), i);
             x.add(i, 255 - i, 1);
@@ -442,7 +460,7 @@ public final class WiresEdgesTest {
     /** Promise 13: "the most WIRES that one TERM .. has (of F, or S, or both), 0 without TERMS" */
     private static void widestTerm() {
         for (int n = 1; n <= 8; n++) {
-            FermionMaps x = of(n);
+            Maps x = of(n);
             Check.due("13: without terms", x.total(3), 0);
             x.add(0, 0, 5);
             Check.due("13: a term without wires", x.total(3), 0);
@@ -457,16 +475,25 @@ public final class WiresEdgesTest {
             x.add(1 << (n - 1), 0, 1);
             Check.due("13: F and S, those of both once", x.total(3), n);
         }
-        FermionMaps flips = of(8, 1, 0, 1);
+        Maps flips = of(8, 1, 0, 1);
         flips.add(0, 1, 1);
         Check.due("13: one wire of F", flips.total(3), 1);
         flips.way(1);
         Check.due("13: all wires of F", flips.total(3), 8);
+        for (int n = 1; n <= 8; n++) {
+            Maps both = of(n, 1, 0, 1);
+            both.add(0, 1, -1);
+            Check.due("12: F and S alike", Check.terms(both), "1,1,1 /0");
+            Check.due("13: one wire of both", both.total(3), 1);
+            both.way(1);
+            Check.due("12: F has S", Check.terms(both), ((1 << n) - 1) + ",1,1 /0");
+            Check.due("13: all wires of F, one of S", both.total(3), n);
+        }
     }
 
     /** Promise 13: "1 if .. each PRODUCT has as many UPS as DOWNS, else 0" */
     private static void asManyUpsAsDowns() {
-        FermionMaps x = of(8);
+        Maps x = of(8);
         Check.due("13: no product", x.total(4), 1);
         Check.due("13: one up alone", of(8, 1, 0, 1).total(4), 0);
         Check.due("13: one down alone", of(8, 0, 128, 1).total(4), 0);
@@ -482,7 +509,7 @@ public final class WiresEdgesTest {
             x.add(sets[0], sets[1], -1);
             Check.due("13: as many again", x.total(4), 1);
         }
-        FermionMaps last = of(8);
+        Maps last = of(8);
         for (int i = 0; i < 59; i++) {
             last.add(i, i, 1);
         }

@@ -22,20 +22,20 @@ public final class WiresTest {
         Check.end();
     }
 
-    private static FermionMaps of(int n) {
-        FermionMaps x = new FermionMaps();
+    private static Maps of(int n) {
+        Maps x = new Maps();
         Check.due("begin(" + n + ")", x.begin(n), true);
         return x;
     }
 
-    private static FermionMaps of(int n, int ups, int downs, int number) {
-        FermionMaps x = of(n);
+    private static Maps of(int n, int ups, int downs, int number) {
+        Maps x = of(n);
         Check.due("first add", x.add(ups, downs, number), 1);
         return x;
     }
 
     /** How each mode alone is written. */
-    private static String written(FermionMaps x) {
+    private static String written(Maps x) {
         StringBuilder text = new StringBuilder();
         for (int mode = 0; mode < x.total(0); mode++) {
             text.append(x.written(1 << mode)).append(' ');
@@ -44,7 +44,7 @@ public final class WiresTest {
     }
 
     private static void ways() {
-        FermionMaps x = of(8);
+        Maps x = of(8);
         Check.due("8: way 0", written(x), "1 2 4 8 16 32 64 128");
         Check.due("8: way(1)", x.way(1), true);
         Check.due("8: way 1", written(x), "255 254 252 248 240 224 192 128");
@@ -55,10 +55,10 @@ public final class WiresTest {
         Check.due("8: way(3) again", x.way(3), true);
         Check.due("8: way(0)", x.way(0), true);
         Check.due("8: total(2)", x.total(2), 0);
-        FermionMaps y = of(6);
+        Maps y = of(6);
         y.way(2);
         Check.due("8: way 2 on six", written(y), "11 10 12 8 48 32");
-        FermionMaps z = of(1, 1, 0, 1);
+        Maps z = of(1, 1, 0, 1);
         for (int kind = 0; kind < 4; kind++) {
             Check.due("8: one mode", z.way(kind), true);
             Check.due("8: one mode", z.written(1) + " " + z.read(1), "1 1");
@@ -66,7 +66,7 @@ public final class WiresTest {
     }
 
     private static void wayRefused() {
-        FermionMaps x = of(3, 4, 1, 5);
+        Maps x = of(3, 4, 1, 5);
         x.way(2);
         String before = Check.all(x);
         for (int kind : new int[] {-1, 4, MIN, MAX, 7}) {
@@ -84,7 +84,7 @@ public final class WiresTest {
     }
 
     private static void wayTold() {
-        FermionMaps x = of(3);
+        Maps x = of(3);
         int[] rows = {6, 5, 7};
         for (int wire = 0; wire < 3; wire++) {
             x.row(wire, rows[wire]);
@@ -99,7 +99,7 @@ public final class WiresTest {
     }
 
     private static void row() {
-        FermionMaps x = of(3);
+        Maps x = of(3);
         int[][] wrong = {{-1, 1}, {3, 1}, {MIN, 1}, {MAX, 1}, {8, 1}, {0, -1}, {0, 8}, {0, MIN},
             {0, MAX}};
         for (int[] call : wrong) {
@@ -125,7 +125,7 @@ public final class WiresTest {
     }
 
     private static void writtenAndRead() {
-        FermionMaps x = of(5);
+        Maps x = of(5);
         x.row(0, 31);
         for (int kind = 0; kind < 4; kind++) {
             x.way(kind);
@@ -153,14 +153,14 @@ public final class WiresTest {
         Check.due("12: up 2", Check.terms(of(3, 4, 0, 1)), "4,3,1 4,7,1 /1");
         Check.due("12: there", Check.terms(of(2, 2, 2, 1)), "0,0,1 0,2,-1 /1");
         Check.due("12: as it is", Check.terms(of(8, 0, 0, -9)), "0,0,-9 /0");
-        FermionMaps hop = of(2, 1, 2, 1);
+        Maps hop = of(2, 1, 2, 1);
         hop.add(2, 1, 1);
         Check.due("12: there and back", Check.terms(hop), "3,0,1 3,3,-1 /1");
         Check.due("12: nothing", Check.terms(of(3)), "");
     }
 
     private static void imageByWays() {
-        FermionMaps x = of(3, 2, 0, 1);
+        Maps x = of(3, 2, 0, 1);
         x.way(1);
         Check.due("12: way 1", Check.terms(x), "6,1,1 6,2,1 /1");
         x.way(2);
@@ -172,7 +172,7 @@ public final class WiresTest {
     }
 
     private static void imageFollowsChanges() {
-        FermionMaps x = of(2, 1, 0, 2);
+        Maps x = of(2, 1, 0, 2);
         Check.due("12: first", Check.terms(x), "1,0,1 1,1,1 /0");
         x.add(1, 0, -1);
         Check.due("12: after add", Check.terms(x), "1,0,1 1,1,1 /1");
@@ -197,13 +197,13 @@ public final class WiresTest {
         Check.due("12: k 0", Check.terms(of(2, 3, 3, 8)), "0,0,-2 0,1,2 0,2,2 0,3,-2 /0");
         Check.due("12: k 1", Check.terms(of(2, 3, 3, 6)), "0,0,-3 0,1,3 0,2,3 0,3,-3 /1");
         Check.due("12: k 2", Check.terms(of(2, 3, 3, 5)), "0,0,-5 0,1,5 0,2,5 0,3,-5 /2");
-        FermionMaps x = of(2, 3, 3, 1);
+        Maps x = of(2, 3, 3, 1);
         x.add(0, 0, 1000000);
         Check.due("12: one k for all", Check.terms(x), "0,0,3999999 0,1,1 0,2,1 0,3,-1 /2");
-        FermionMaps half = of(2, 0, 0, 1);
+        Maps half = of(2, 0, 0, 1);
         half.add(2, 2, -2);
         Check.due("12: one goes away", Check.terms(half), "0,2,1 /0");
-        FermionMaps great = of(8, 255, 255, 1);
+        Maps great = of(8, 255, 255, 1);
         for (int set = 0; set < 256; set++) {
             if (Integer.bitCount(set) <= 2) {
                 great.add(set, set, Integer.bitCount(set) == 2 ? -1000000 : 1000000);
@@ -214,7 +214,7 @@ public final class WiresTest {
     }
 
     private static void imageRefused() {
-        FermionMaps x = of(3, 4, 1, 5);
+        Maps x = of(3, 4, 1, 5);
         Check.due("12: terms", Check.image(x, -1, 0), "4");
         for (int what : new int[] {1, 2, 3, 4, -1, MIN, MAX}) {
             Check.due("12: for any what", Check.image(x, -1, what), "4");
@@ -228,14 +228,14 @@ public final class WiresTest {
         for (int i = 0; i < 4; i++) {
             Check.due("12: k of each", Check.image(x, i, 3), "2");
         }
-        FermionMaps empty = of(3);
+        Maps empty = of(3);
         Check.due("12: no k without terms", Check.image(empty, 0, 3), Check.THROWS);
         Check.due("12: no terms, for any what", Check.image(empty, -1, 9), "0");
     }
 
     /** The most terms that there can be: 60 products that touch all modes, each with other flips. */
     private static void imageAtItsGreatest() {
-        FermionMaps x = of(8);
+        Maps x = of(8);
         for (int i = 0; i < 60; i++) {
             x.add(255, i, 1000000 - i);
         }
@@ -254,7 +254,7 @@ public final class WiresTest {
         }
     }
 
-    private static String totals(FermionMaps x) {
+    private static String totals(Maps x) {
         StringBuilder text = new StringBuilder();
         for (int what = 0; what < 5; what++) {
             text.append(x.total(what)).append(' ');
@@ -264,7 +264,7 @@ public final class WiresTest {
 
     private static void totals() {
         Check.due("13: empty", totals(of(5)), "5 0 0 0 1");
-        FermionMaps x = of(5, 16, 1, 1);
+        Maps x = of(5, 16, 1, 1);
         Check.due("13: a hop", totals(x), "5 1 0 5 1");
         x.way(1);
         Check.due("13: a hop by way 1", totals(x), "5 1 1 5 1");
@@ -277,11 +277,11 @@ public final class WiresTest {
         Check.due("13: cleared", totals(x), "5 0 2 0 1");
         x.add(0, 0, 4);
         Check.due("13: the empty product", totals(x), "5 1 2 0 1");
-        FermionMaps signs = of(4, 8, 8, 2);
+        Maps signs = of(4, 8, 8, 2);
         Check.due("13: signs alone", totals(signs), "4 1 0 1 1");
-        FermionMaps both = of(4, 4, 0, 2);
+        Maps both = of(4, 4, 0, 2);
         Check.due("13: both", totals(both), "4 1 0 3 0");
-        FermionMaps flips = of(4, 1, 0, 1);
+        Maps flips = of(4, 1, 0, 1);
         flips.add(0, 1, 1);
         flips.way(1);
         Check.due("13: flips alone", totals(flips), "4 2 1 4 0");
